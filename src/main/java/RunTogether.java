@@ -1411,7 +1411,8 @@ public final class RunTogether {
             for (int n = 0; n < size; n++) {
                 leastOfLine[n] = measure(n);
             }
-            for (newLength = SHORTEST_NEW; newLength <= LONGEST_NEW; newLength++) {
+            for (int length = SHORTEST_NEW; length <= LONGEST_NEW; length++) {
+                newLength = length;
                 encode();
                 for (int i = 0; i < size * LONGEST_LINE; i++) {
                     tryNew(i);
