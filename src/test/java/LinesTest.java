@@ -236,5 +236,9 @@ public final class LinesTest {
         fresh(x, 0, 4, "cccc");
         x.drop();
         fresh(x, 0, 0, null);
+        Told.lines(x, "bb");
+        fresh(x, 0, 2, "bb");
+        x.letters(3);
+        fresh(x, 0, 0, null);
     }
 }

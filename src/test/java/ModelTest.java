@@ -57,15 +57,17 @@ public final class ModelTest {
         int used = Math.min(there, 2 + draw(there));
         int longest = 1 + draw(draw(4) == 0 ? 8 : 4);
         int words = draw(3) == 0 ? draw(17) : 1 + draw(6);
+        boolean full = draw(6) == 0;
+        if (full) words = 16;
         java.util.Set<String> told = new java.util.LinkedHashSet<>();
         for (int i = 0; i < 40 && told.size() < words; i++) {
             StringBuilder word = new StringBuilder();
-            int length = 1 + draw(longest);
+            int length = full && draw(8) > 0 ? 8 - draw(draw(4) + 1) : 1 + draw(longest);
             for (int j = 0; j < length; j++) word.append((char) ('a' + draw(used)));
             told.add(word.toString());
         }
-        boolean kinds = draw(2) == 0;
-        int costs = draw(3);
+        boolean kinds = !full && draw(2) == 0;
+        int costs = full ? 0 : draw(3);
         StringBuilder text = new StringBuilder();
         for (String word : told) {
             text.append(word);

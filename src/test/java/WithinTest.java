@@ -84,6 +84,7 @@ public final class WithinTest {
         shortest(2, "a;b;ab;ba;", null, null);
         shortest(3, "ab;bc;cab;", "ab", "aa");
         shortest(8, "abcdefgh;", "h", "aa");
+        shortest(2, fullRoom(), "bababb", "babaa");
         Told.tell(x, "ab;");
         due.is("18 kinds aside", x.key(NONE), 1);
         x.follows(0, 0, false);
@@ -95,6 +96,17 @@ public final class WithinTest {
         due.is("18 a fault changes nothing", x.key(0), 0);
         x.letters(2);
         due.is("18 no words any more", x.key(0), NOT);
+    }
+
+    /** Sixteen words of eight letters, as many as there can be: aa, then all that four letters can be, then bb. */
+    private static String fullRoom() {
+        StringBuilder text = new StringBuilder();
+        for (int n = 0; n < 16; n++) {
+            text.append("aa");
+            for (int bit = 3; bit >= 0; bit--) text.append((char) ('a' + (n >> bit & 1)));
+            text.append("bb;");
+        }
+        return text.toString();
     }
 
     private void promise19() {
@@ -232,5 +244,9 @@ public final class WithinTest {
         Told.tell(x, "a;b;c;d;e;f;");
         due.is("21 six to the 19th", x.rows(19), 609359740010496L);
         due.is("21 six to the 20th is above", x.rows(20), LARGE);
+        x.letters(2);
+        Told.tell(x, fullRoom());
+        due.is("21 two words of sixteen", x.rows(16), 256);
+        due.is("21 not half a word", x.rows(20), 0);
     }
 }
