@@ -790,6 +790,7 @@ public final class RunTogether {
         private final long[] many = new long[(LONGEST_DRAFT + 1) * AHEADS];
         private int by;
         private int place;
+        private long left;
 
         Readings(Row draft, Words words, Rules rules) {
             this.draft = draft;
@@ -876,28 +877,33 @@ public final class RunTogether {
             if (i >= many[NO_KIND]) {
                 return NONE;
             }
-            long left = i;
+            left = i;
             int at = 0;
             int ahead = NO_KIND;
             for (int step = 0; step <= j && at < draft.size; step++) {
-                int chosen = NONE;
-                for (int w = 0; w < words.size && chosen == NONE; w++) {
-                    int weight = weightFrom(at, ahead, w);
-                    if (weight >= FAR || weight > least[at * AHEADS + ahead]) {
-                        continue;
-                    }
-                    long held = many[behind(at, w)];
-                    if (left < held) {
-                        chosen = w;
-                    } else {
-                        left -= held;
-                    }
-                }
+                int chosen = choose(at, ahead);
                 if (chosen == NONE || step == j) {
                     return chosen;
                 }
                 at += words.lengths[chosen];
                 ahead = words.kinds[chosen];
+            }
+            return NONE;
+        }
+
+        /** The WORD with which the READING goes on that has as many ahead of it as are left to pass by. */
+        private int choose(int at, int ahead) {
+            int lightest = least[at * AHEADS + ahead];
+            for (int w = 0; w < words.size; w++) {
+                int weight = weightFrom(at, ahead, w);
+                if (weight >= FAR || weight > lightest) {
+                    continue;
+                }
+                long held = many[behind(at, w)];
+                if (left < held) {
+                    return w;
+                }
+                left -= held;
             }
             return NONE;
         }
@@ -945,19 +951,11 @@ public final class RunTogether {
 
         void search(Shortest shortest) {
             layOut();
-            next.become(firsts);
-            for (int sign = 0; sign < MOST_LETTERS; sign++) {
-                next.low |= readsLow[sign];
-                next.high |= readsHigh[sign];
-            }
-            boolean isAtEnd = next.isLike(firsts);
+            beAnywhere();
             begin();
             shortest.isKnown = true;
-            shortest.length = NONE;
-            if (shortest.isKey && isAtEnd) {
-                shortest.length = 0;
-                return;
-            }
+            // Where all WORDS have one letter, one is at an end from the start: the ROW without letters is a KEY.
+            shortest.length = shortest.isKey && next.isLike(firsts) ? 0 : NONE;
             int from = 0;
             for (int length = 1; length <= LONGEST_SHORTEST && shortest.length == NONE; length++) {
                 int to = size;
@@ -965,6 +963,14 @@ public final class RunTogether {
                     searchBehind(s, length, shortest);
                 }
                 from = to;
+            }
+        }
+
+        private void beAnywhere() {
+            next.empty();
+            for (int sign = 0; sign < MOST_LETTERS; sign++) {
+                next.low |= readsLow[sign];
+                next.high |= readsHigh[sign];
             }
         }
 
