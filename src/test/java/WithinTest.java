@@ -18,6 +18,7 @@ public final class WithinTest {
         test.shortestByAllRowsOfWords();
         test.promise20();
         test.promise21();
+        test.manyStates();
         test.due.close();
     }
 
@@ -248,5 +249,26 @@ public final class WithinTest {
         Told.tell(x, fullRoom());
         due.is("21 two words of sixteen", x.rows(16), 256);
         due.is("21 not half a word", x.rows(20), 0);
+    }
+
+    /** Words with as many states of knowing as a long search could find: 500 to 900 of them, all below the bound. */
+    private void manyStates() {
+        String[] sets = {
+            "aaab;abbbbbbb;babbbabb;bbbabbba;bbbbbbba;bbabbbb;babbbbbb;bbbbbbab;a;abbbbb;aaaabb;abbbab;aabbb;bbbbbabb;bbbbbbbb;bbbbabbb;",
+            "bbbbbaba;abaaabab;babbbbaa;baaaaabb;bbabbaaa;abbbbba;aabaaaa;abababb;bababbab;bbaaaaba;baabbbbb;aaababaa;aaaabbba;bbbaabba;abbabbb;aab;",
+            "bbbbbaab;aaabbba;baaabba;ababbaa;bbaaabab;aaabaaaa;aaaaaaab;baabbaaa;babaabb;abaaba;bbabbb;abbababb;aabbbb;bbbabbab;abbbabaa;aabababa;",
+            "bbabbbbb;babb;abbb;bbbbbbcb;bbbbabbb;bbbbc;ab;bbbbbcbb;cbbbbbab;a;bcbbbbba;bbcbbb;bbbcbbbb;bbbbbbb;bbbabbbb;abba;"};
+        for (String words : sets) {
+            RunTogether x = Told.with(3, words);
+            Plain m = new Plain();
+            m.letters(3);
+            for (int at = 0; at < words.length(); at++) m.feed(1, words.charAt(at));
+            m.read();
+            for (int n = 0; n <= 20; n += 4) due.is("21 rows(" + n + ") of " + words, x.rows(n), m.rows(n));
+            for (int i = NONE; i < 12; i++) {
+                due.is("18 key(" + i + ") of " + words, x.key(i), m.key(i));
+                due.is("19 strange(" + i + ") of " + words, x.strange(i), m.strange(i));
+            }
+        }
     }
 }

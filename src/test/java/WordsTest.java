@@ -213,6 +213,8 @@ public final class WordsTest {
         fault(2, "ab;b;a b;", 4, 5);
         fault(2, "ab;ab:100;", 4, 3);
         fault(2, "ab;ab/9;", 4, 3);
+        fault(2, "ab;ab?;", 4, 3);
+        fault(2, "ab;ab", 4, 3);
         fault(2, "a:1;a:2/3;", 4, 4);
         String sixteen = "a;b;aa;ab;ba;bb;aaa;aab;aba;abb;baa;bab;bba;bbb;aaaa;aaab;";
         fault(2, sixteen + "bbbb;", 5, 58);
