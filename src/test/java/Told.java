@@ -1,5 +1,8 @@
 /** Short ways to bring an object to where a test begins. */
 final class Told {
+    /** As many words as there can be. */
+    static final String SIXTEEN = "a;b;aa;ab;ba;bb;aaa;aab;aba;abb;baa;bab;bba;bbb;aaaa;aaab;";
+
     private Told() { }
 
     /** Feeds the whole text, eight bytes a call, and reads it. */
