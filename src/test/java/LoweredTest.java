@@ -30,7 +30,7 @@ public final class LoweredTest {
     public static void main(String[] args) throws Exception {
         LoweredTest test = new LoweredTest();
         try {
-            test.due.holds("the bounds stand in the program", test.program.contains(STATES) && test.program.contains(COUNTED));
+            test.due.holds("the bounds do not stand in the program as the document tells them", test.program.contains(STATES) && test.program.contains(COUNTED));
             if (test.due.isRight()) {
                 test.keyLarge();
                 test.strangeLarge();
