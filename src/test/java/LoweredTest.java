@@ -140,6 +140,8 @@ public final class LoweredTest {
     private void rowsLarge() throws Exception {
         due.says("Promise 21", "or more than 2000 unlike states of knowing on the way.");
         for (int n : new int[] {3, 20}) atBound(3, MANY[0], n, "rows", "rows", n);
+        // All states of these are come to long ahead of the last letter: a full room must go on.
+        for (int n : new int[] {12, 20}) atBound(2, "aab;ab;b;", n, "rows", "rows", n);
     }
 
     /** With as many states as the bound it answers as ever, with one more it is LARGE. */

@@ -19,6 +19,7 @@ public final class WithinTest {
         test.promise20();
         test.promise21();
         test.manyStates();
+        test.searchesLeaveNoTrace();
         test.due.close();
     }
 
@@ -249,6 +250,29 @@ public final class WithinTest {
         Told.tell(x, fullRoom());
         due.is("21 two words of sixteen", x.rows(16), 256);
         due.is("21 not half a word", x.rows(20), 0);
+    }
+
+    /** One object searches the states of many words in turn, and answers as a new object does. */
+    private void searchesLeaveNoTrace() {
+        long seed = 11;
+        RunTogether x = new RunTogether();
+        for (int turn = 0; turn < 80; turn++) {
+            StringBuilder text = new StringBuilder();
+            for (int w = 0; w < 16; w++) {
+                seed = seed * 6364136223846793005L + 1442695040888963407L;
+                for (int bit = 3; bit >= 0; bit--) text.append((char) ('a' + (w >> bit & 1)));
+                for (int bit = 0; bit < (seed >>> 40) % 5; bit++) text.append((char) ('a' + (seed >>> (44 + bit) & 1)));
+                text.append(';');
+            }
+            RunTogether y = Told.with(2, text.toString());
+            Told.tell(x, text.toString());
+            long rows = y.rows(18);
+            due.is("21 rows(18) of " + text, x.rows(18), rows);
+            due.is("21 rows(18) again", x.rows(18), rows);
+            due.is("18 key(-1) of " + text, x.key(NONE), y.key(NONE));
+            due.is("19 strange(-1) of " + text, x.strange(NONE), y.strange(NONE));
+            due.is("21 rows(18) behind them", x.rows(18), rows);
+        }
     }
 
     /** Words with as many states of knowing as a long search could find: 500 to 900 of them, all below the bound. */
