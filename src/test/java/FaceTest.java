@@ -6,7 +6,9 @@ import java.nio.file.Files;
 import java.nio.file.Path;
 import java.util.ArrayList;
 import java.util.List;
+import java.util.Map;
 import java.util.Set;
+import java.util.TreeMap;
 import java.util.TreeSet;
 import java.util.regex.Matcher;
 import java.util.regex.Pattern;
@@ -25,11 +27,15 @@ public final class FaceTest {
         "->", "::", "\\bstrictfp\\b", "\\bnative\\b", "\\bvar\\b", "\\bpackage\\b", "\\w*Exact\\b", "\\bSystem\\.(?!arraycopy)",
         "\\bThread\\b", "\\bRandom\\b", "\\bhashCode\\b", "\\btoString\\b", "\\bstatic\\s*\\{", "\\bObject\\b",
         "while\\s*\\(\\s*true", "for\\s*\\(\\s*;\\s*;"};
+    private static final int MOST_DEEP = 8;
+    private static final Path DOCUMENT = Path.of("../shared/DOC.md");
     private final Due due = new Due();
 
     public static void main(String[] args) throws Exception {
         FaceTest test = new FaceTest();
+        test.document();
         test.face();
+        test.parts();
         test.classes();
         test.source();
         test.due.close();
@@ -37,6 +43,52 @@ public final class FaceTest {
 
     private void hold(String what, boolean holds) {
         due.is(what, holds ? 1 : 0, 1);
+    }
+
+    /** The document's own writing of the face: what is tested below is that, and each method has its promise. */
+    private void document() throws Exception {
+        String document = Files.readString(DOCUMENT);
+        Matcher block = Pattern.compile("(?ms)^## The public face$.*?^```java$(.*?)^```$").matcher(document);
+        hold("the document writes the face", block.find());
+        hold("the document writes the class and its constructor", block.group(1).contains("public final class RunTogether {")
+                && block.group(1).contains("    public RunTogether();"));
+        Set<String> written = new TreeSet<>();
+        Matcher method = Pattern.compile("public (\\w+ \\w+)\\(([^)]*)\\);").matcher(block.group(1));
+        int order = 1;
+        while (method.find()) {
+            written.add(method.group(1) + "(" + method.group(2).replaceAll(" \\w+(,? ?)", "$1").replace(" ", "") + ")");
+            order++;
+            hold("Promise " + order + " is " + method.group(1), document.contains("\n## Promise " + order + ": "
+                    + method.group(1).replaceAll("\\w+ ", "") + "\n\n`" + method.group(1) + "(" + method.group(2) + ")`:"));
+        }
+        due.is("promises", order, 29);
+        due.alike("the methods that the document writes", written.toString(), new TreeSet<>(List.of(METHODS)).toString());
+        Matcher constants = Pattern.compile("public static final int ([^;]*);").matcher(block.group(1));
+        hold("the document writes the constants", constants.find());
+        for (String constant : constants.group(1).split(", ")) {
+            String[] parts = constant.split(" = ");
+            due.is(parts[0], RunTogether.class.getField(parts[0]).getInt(null), Integer.parseInt(parts[1]));
+        }
+    }
+
+    /** Ahead of the calls of each part the program says what the document's interface says there. */
+    private void parts() throws Exception {
+        String source = Files.readString(Path.of("src/main/java/RunTogether.java"));
+        Matcher part = Pattern.compile("Ahead of the calls (.*) the interface says: (---- .*)\\.").matcher(Files.readString(DOCUMENT));
+        int at = 0;
+        int parts = 0;
+        while (part.find()) {
+            parts++;
+            int heading = source.indexOf("    // " + part.group(2) + "\n", at);
+            hold("'" + part.group(2) + "' stands in the program, behind the part ahead", heading >= at);
+            at = Math.max(at, heading);
+            for (String name : part.group(1).replace("`", "").split(", ")) {
+                Matcher method = Pattern.compile("\n    public (int|long) " + name + "\\(").matcher(source);
+                hold(name + " stands behind what is ahead of it in " + part.group(2), method.find(at));
+                if (method.find(at)) at = method.end();
+            }
+        }
+        due.is("parts of the interface", parts, 5);
     }
 
     private void face() {
@@ -109,20 +161,34 @@ public final class FaceTest {
             hold("an import of the language: " + imports.group(1),
                     Set.of("java.util.ArrayList", "java.util.List", "java.util.Arrays", "java.util.Iterator").contains(imports.group(1)));
         }
-        shortMethods(source.split("\n"));
+        shortMethods(code.split("\n"));
     }
 
     /** A method begins with a line that is indented by 4 or 8 and ends with its brace at the same depth. */
     private void shortMethods(String[] rows) {
-        int methods = 0;
+        Map<String, String> bodies = new TreeMap<>();
         for (int from = 0; from < rows.length; from++) {
-            Matcher begin = Pattern.compile("^( {4}| {8})(?! )[\\w<>\\[\\] ]*\\w+\\([^;]*\\) \\{$").matcher(rows[from]);
+            Matcher begin = Pattern.compile("^( {4}| {8})(?! )[\\w<>\\[\\] ]*\\b(\\w+)\\([^;]*\\) \\{$").matcher(rows[from]);
             if (!begin.find()) continue;
             int to = from;
             while (to < rows.length && !rows[to].equals(begin.group(1) + "}")) to++;
-            methods++;
             hold("at most sixty lines: " + rows[from].trim(), to - from + 1 <= 60);
+            String body = String.join("\n", List.of(rows).subList(from + 1, to));
+            bodies.merge(begin.group(2), body, (one, other) -> one + "\n" + other);
         }
-        hold("methods were found", methods > 50);
+        hold("methods were found", bodies.size() > 50);
+        for (String name : bodies.keySet()) {
+            hold("calls go at most eight deep, and there is no recursion: " + name, depth(name, bodies, MOST_DEEP) <= MOST_DEEP);
+        }
+    }
+
+    /** How deep the calls of a method go, itself counted; methods of one name are taken as one, so it may be less. */
+    private static int depth(String name, Map<String, String> bodies, int left) {
+        int deepest = 0;
+        Matcher call = Pattern.compile("\\b(\\w+)\\(").matcher(bodies.get(name));
+        while (left > 0 && call.find()) {
+            if (bodies.containsKey(call.group(1))) deepest = Math.max(deepest, depth(call.group(1), bodies, left - 1));
+        }
+        return left > 0 ? deepest + 1 : MOST_DEEP + 1;
     }
 }
